@@ -72,7 +72,7 @@ public final class LeastRoutes {
             case 5:
                 return freshView().hopsBeneath(p);
             case 6:
-                return redundancy(p);
+                return table().redundancyOf(p);
             default:
                 return BAD;
         }
@@ -106,13 +106,13 @@ public final class LeastRoutes {
             case 2:
                 return installed().howMany();
             case 3:
-                return countChanges();
+                return freshView().countChanges();
             case 4:
-                return countProof();
+                return freshView().countProof();
             case 5:
-                return countRedundant();
+                return table().countRedundant();
             case 6:
-                return firstSentElsewhere();
+                return freshView().firstSentElsewhere();
             case 7:
                 return history.howManyKnown();
             default:
@@ -126,7 +126,8 @@ public final class LeastRoutes {
         if (k < 0 || what < 0 || what > 3) {
             return BAD;
         }
-        int p = changeNumber(k);
+        View seen = freshView();
+        int p = seen.changeNumber(k);
         if (p == NONE) {
             return NONE;
         }
@@ -136,9 +137,9 @@ public final class LeastRoutes {
             case 1:
                 return installed().hopAt(p);
             case 2:
-                return freshView().leastTable().hopAt(p);
+                return seen.leastTable().hopAt(p);
             default:
-                return kindOfChange(p);
+                return seen.kindOfChange(p);
         }
     }
 
@@ -146,7 +147,8 @@ public final class LeastRoutes {
         if (k < 0 || what < 0 || what > 2) {
             return BAD;
         }
-        int p = proofNumber(k);
+        View seen = freshView();
+        int p = seen.proofNumber(k);
         if (p == NONE) {
             return NONE;
         }
@@ -154,9 +156,9 @@ public final class LeastRoutes {
             case 0:
                 return p;
             case 1:
-                return lowestHop(freshView().hopsBeneath(p));
+                return lowestHop(seen.hopsBeneath(p));
             default:
-                return lowestHop(freshView().installedHopsBeneath(p));
+                return lowestHop(seen.installedHopsBeneath(p));
         }
     }
 
@@ -228,13 +230,13 @@ public final class LeastRoutes {
     }
 
     public int install() {
-        int changes = countChanges();
+        View seen = freshView();
+        int changes = seen.countChanges();
         if (changes == 0) {
             return NOT;
         }
-        Table leastTable = freshView().leastTable();
         beginStep();
-        installed().takeFrom(leastTable);
+        installed().takeFrom(seen.leastTable());
         return changes;
     }
 
@@ -448,7 +450,7 @@ public final class LeastRoutes {
         return greater;
     }
 
-    // ---- what is read off the tables
+    // ---- the state
 
     private Table table() {
         return history.present().tableNow();
@@ -465,128 +467,6 @@ public final class LeastRoutes {
         }
         return view;
     }
-
-    /** 0 it goes out, 1 it comes in, 2 its hop becomes another one; NONE: it is no change. */
-    private int kindOfChange(int p) {
-        int had = installed().hopAt(p);
-        int gets = freshView().leastTable().hopAt(p);
-        if (had == gets) {
-            return NONE;
-        }
-        if (gets == NONE) {
-            return 0;
-        }
-        return had == NONE ? 1 : 2;
-    }
-
-    private int countChanges() {
-        int changes = 0;
-        for (int p = 1; p < NUMBERS; p++) {
-            if (kindOfChange(p) != NONE) {
-                changes++;
-            }
-        }
-        return changes;
-    }
-
-    private int changeNumber(int k) {
-        int ahead = 0;
-        for (int p = 1; p < NUMBERS; p++) {
-            if (kindOfChange(p) != NONE) {
-                if (ahead == k) {
-                    return p;
-                }
-                ahead++;
-            }
-        }
-        return NONE;
-    }
-
-    private boolean isAgreed(int p) {
-        return isOneHop(freshView().hopsBeneath(p)) && isOneHop(freshView().installedHopsBeneath(p));
-    }
-
-    /** If the prefix stands in the proof: what is beneath an agreed one is agreed, so its parent alone could hide it. */
-    private boolean isInProof(int p) {
-        return isAgreed(p) && (p == 1 || !isAgreed(p >> 1));
-    }
-
-    /** The prefix of the proof that an address has: one address is always agreed, so there is one. */
-    private int proofAt(int address) {
-        for (int length = 0; length < BITS; length++) {
-            int p = (ADDRESSES + address) >> (BITS - length);
-            if (isAgreed(p)) {
-                return p;
-            }
-        }
-        return ADDRESSES + address;
-    }
-
-    private int countProof() {
-        int found = 0;
-        for (int p = 1; p < NUMBERS; p++) {
-            if (isInProof(p)) {
-                found++;
-            }
-        }
-        return found;
-    }
-
-    private int proofNumber(int k) {
-        int ahead = 0;
-        for (int address = 0; address < ADDRESSES; address++) {
-            int p = proofAt(address);
-            if (firstAddress(p) == address) {
-                if (ahead == k) {
-                    return p;
-                }
-                ahead++;
-            }
-        }
-        return NONE;
-    }
-
-    /** 1 redundant, 0 not; NONE: it's not in the table. */
-    private int redundancy(int p) {
-        int hop = table().hopAt(p);
-        if (hop == NONE) {
-            return NONE;
-        }
-        if (table().hopFromAbove(p) == hop) {
-            return 1;
-        }
-        int first = firstAddress(p);
-        int end = first + howManyAddresses(p);
-        for (int address = first; address < end; address++) {
-            if (table().deciderOf(address) == p) {
-                return 0;
-            }
-        }
-        return 1;
-    }
-
-    private int countRedundant() {
-        int found = 0;
-        for (int p = 1; p < NUMBERS; p++) {
-            if (redundancy(p) == 1) {
-                found++;
-            }
-        }
-        return found;
-    }
-
-    private int firstSentElsewhere() {
-        View seen = freshView();
-        for (int address = 0; address < ADDRESSES; address++) {
-            int p = ADDRESSES + address;
-            if (seen.hopsBeneath(p) != seen.installedHopsBeneath(p)) {
-                return address;
-            }
-        }
-        return NONE;
-    }
-
-    // ---- what changes the tables
 
     /** Ahead of all that may be undone. */
     private void beginStep() {
@@ -620,26 +500,24 @@ public final class LeastRoutes {
         }
 
         int hopAt(int p) {
-            if (!isPrefix(p)) {
+            if (p < 1 || p >= NUMBERS) {
                 return NONE;
             }
-            int place = (int) (places[p >> 4] >>> shiftOf(p)) & 15;
+            int place = (int) (places[p >> 4] >>> 4 * (p & 15)) & 15;
             return place == 0 ? NONE : place - 1;
         }
 
         void put(int p, int hop) {
-            if (!isPrefix(p) || !isHop(hop)) {
-                return;
+            if (isPrefix(p) && isHop(hop)) {
+                size += hopAt(p) == NONE ? 1 : 0;
+                setPlace(p, hop + 1);
             }
-            takeOut(p);
-            places[p >> 4] |= (long) (hop + 1) << shiftOf(p);
-            size++;
         }
 
         void takeOut(int p) {
             if (hopAt(p) != NONE) {
-                places[p >> 4] &= ~(15L << shiftOf(p));
                 size--;
+                setPlace(p, 0);
             }
         }
 
@@ -714,8 +592,41 @@ public final class LeastRoutes {
             return replaced;
         }
 
-        private static int shiftOf(int p) {
-            return (p & 15) * 4;
+        /** 1 redundant, 0 not; NONE: it is not in the table. */
+        int redundancyOf(int p) {
+            int hop = hopAt(p);
+            if (hop == NONE) {
+                return NONE;
+            }
+            return hop == hopFromAbove(p) || !decidesAny(p) ? 1 : 0;
+        }
+
+        int countRedundant() {
+            int found = 0;
+            for (int p = 1; p < NUMBERS; p++) {
+                if (redundancyOf(p) == 1) {
+                    found++;
+                }
+            }
+            return found;
+        }
+
+        private boolean decidesAny(int p) {
+            int first = firstAddress(p);
+            int end = first + howManyAddresses(p);
+            for (int address = first; address < end; address++) {
+                if (deciderOf(address) == p) {
+                    return true;
+                }
+            }
+            return false;
+        }
+
+        private void setPlace(int p, int place) {
+            if (p >= 1 && p < NUMBERS) {
+                int shift = 4 * (p & 15);
+                places[p >> 4] = places[p >> 4] & ~(15L << shift) | (long) place << shift;
+            }
         }
     }
 
@@ -814,10 +725,12 @@ public final class LeastRoutes {
         private final int[] best = new int[NUMBERS];
         private final int[] ease = new int[NUMBERS];
         private final int[] fromAbove = new int[NUMBERS];
+        private final Table inUse = new Table();
         private final Table leastOne = new Table();
 
-        void make(Table told, Table inUse) {
-            spread(told, sent);
+        void make(Table toldNow, Table installedNow) {
+            inUse.takeFrom(installedNow);
+            spread(toldNow, sent);
             spread(inUse, sentByInstalled);
             findBest();
             findLeast();
@@ -846,6 +759,87 @@ public final class LeastRoutes {
         /** A hop that is not one of the best costs one more: the prefix itself, with a best one. */
         int costBy(int p, int hop) {
             return easeOf(p) + (hasBit(bestHops(p), hop) ? 0 : 1);
+        }
+
+        /** 0 it goes out, 1 it comes in, 2 its hop becomes another one; NONE: it is no change. */
+        int kindOfChange(int p) {
+            int had = inUse.hopAt(p);
+            int gets = leastOne.hopAt(p);
+            if (had == gets) {
+                return NONE;
+            }
+            if (gets == NONE) {
+                return 0;
+            }
+            return had == NONE ? 1 : 2;
+        }
+
+        int countChanges() {
+            int found = 0;
+            for (int p = 1; p < NUMBERS; p++) {
+                if (kindOfChange(p) != NONE) {
+                    found++;
+                }
+            }
+            return found;
+        }
+
+        int changeNumber(int k) {
+            int ahead = 0;
+            for (int p = 1; p < NUMBERS; p++) {
+                if (kindOfChange(p) != NONE) {
+                    if (ahead == k) {
+                        return p;
+                    }
+                    ahead++;
+                }
+            }
+            return NONE;
+        }
+
+        int countProof() {
+            int found = 0;
+            for (int address = 0; address < ADDRESSES; address++) {
+                if (proofFrom(address) != NONE) {
+                    found++;
+                }
+            }
+            return found;
+        }
+
+        int proofNumber(int k) {
+            int ahead = 0;
+            for (int address = 0; address < ADDRESSES; address++) {
+                int p = proofFrom(address);
+                if (p != NONE) {
+                    if (ahead == k) {
+                        return p;
+                    }
+                    ahead++;
+                }
+            }
+            return NONE;
+        }
+
+        int firstSentElsewhere() {
+            for (int address = 0; address < ADDRESSES; address++) {
+                if (sent[ADDRESSES + address] != sentByInstalled[ADDRESSES + address]) {
+                    return address;
+                }
+            }
+            return NONE;
+        }
+
+        /** The prefix of the proof of which an address is the least one; NONE: it is the least one of none. */
+        private int proofFrom(int address) {
+            // The shortest one that will do is beneath no other; with all eight bits it always will.
+            for (int length = 0; length <= BITS; length++) {
+                int p = (ADDRESSES + address) >> (BITS - length);
+                if (isOneHop(hopsBeneath(p)) && isOneHop(installedHopsBeneath(p))) {
+                    return firstAddress(p) == address ? p : NONE;
+                }
+            }
+            return NONE;
         }
 
         /** Of each prefix the hops (bits) of its addresses: what decides comes down first, then the bits go up. */
