@@ -84,6 +84,8 @@ public final class StepCallsTest {
         due("INSTALLED keeps its hop", x.look(128, 2), 4);
         due("hop 0 to the greatest", x.rename(0, 7), 1);
         due("hop 7 to the least", x.rename(7, 0), 1);
+        due("the least prefix alone", Sentences.withText("*:4").rename(4, 5), 1);
+        due("the greatest prefix alone", Sentences.withText("11111111:4").rename(4, 5), 1);
         due("all forty", renameForty(), 40);
         the("BAD;");
         for (int hop : Sentences.outside(0, 7)) {
@@ -123,7 +125,14 @@ public final class StepCallsTest {
         due("all go out", x.install(), 2);
         due("none is installed", x.count(2), 0);
         the("NOT: none.");
-        due("at once again", x.install(), NOT);
+        due("of an empty one again", x.install(), NOT);
+        LeastRoutes same = Sentences.withText("0*:1;1*:2");
+        same.install();
+        due("at once again", same.install(), NOT);
+        same.tell(2, 3);
+        same.tell(2, 1);
+        due("a step and back", same.install(), NOT);
+        due("refused is no step", same.count(7), 4);
         due("none of a new object", new LeastRoutes().install(), NOT);
         x.tell(511, 0);
         due("the table is another one, the least one is not", x.install(), NOT);
@@ -369,6 +378,7 @@ public final class StepCallsTest {
         the("All is as it was then: 1.");
         LeastRoutes x = withImage();
         changeAll(x);
+        due("the least table is looked at ahead of it", x.look(0, 3) == 3 ? 1 : 0, 0);
         due("restore()", x.restore(), 1);
         isAsKept(x);
         x.undo();

@@ -192,6 +192,13 @@ public final class TermsTest {
         due("and one beneath decides", x.prefix(31, 6), 0);
         x.tell(7, 6);
         due("another one than from above", x.prefix(7, 6), 0);
+        for (int bits = 1; bits <= 8; bits++) {
+            LeastRoutes y = Sentences.withText("*:3");
+            y.tell((2 << bits) - 1, 3);
+            due("as from prefix 1, of " + bits + " bits", y.prefix((2 << bits) - 1, 6), 1);
+            y.tell((2 << bits) - 1, 0);
+            due("hop 0, not as from prefix 1, of " + bits + " bits", y.prefix((2 << bits) - 1, 6), 0);
+        }
         due("one of it left", Sentences.withText("1111111*:1;11111111:2").prefix(255, 6), 0);
         due("none of it left", Sentences.withText("1111111*:1;11111111:2;11111110:3").prefix(255, 6), 1);
     }
