@@ -794,7 +794,8 @@ public final class ModelTest {
         for (int calls = 0; calls < CALLS - 101; ) {
             int more = oneStep();
             if (more < 0) {
-                System.out.println("run " + run + ", after " + calls + " calls: " + call + " answered " + got + ", due is " + want);
+                System.out.println("run " + run + ", after " + calls + " calls: " + call + " answered " + got
+                    + ", due is " + want);
                 return false;
             }
             calls += more;

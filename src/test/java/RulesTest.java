@@ -1,3 +1,5 @@
+import java.io.PrintWriter;
+import java.io.StringWriter;
 import java.lang.management.ManagementFactory;
 import java.lang.reflect.Constructor;
 import java.lang.reflect.Field;
@@ -5,15 +7,27 @@ import java.lang.reflect.Method;
 import java.lang.reflect.Modifier;
 import java.nio.file.Files;
 import java.nio.file.Path;
+import java.util.ArrayList;
 import java.util.Arrays;
+import java.util.List;
+import java.util.Map;
+import java.util.Optional;
 import java.util.Set;
+import java.util.TreeMap;
 import java.util.TreeSet;
 import java.util.regex.Matcher;
 import java.util.regex.Pattern;
+import java.util.spi.ToolProvider;
 
-/** The face of the class, rules of LANGUAGE.md that can be seen in its text, and the room that a run of calls takes. */
+/**
+ * The face of the class, rules of LANGUAGE.md that can be seen in its text or in the compiled class, and the room that a
+ * run of calls takes.
+ */
 public final class RulesTest {
     private static final Path SOURCE = Path.of("src/main/java/LeastRoutes.java");
+    private static final int DEEPEST = 8;
+    private static final String ALLOWED = "java/lang/Object\\.\"<init>\"|java/lang/System\\.arraycopy"
+        + "|java/util/Arrays\\.(fill|copyOf|copyOfRange)|java/lang/(Integer|Long|Math)\\.(?!\\w*Exact)\\w+";
     private static int wrong = 0;
 
     private static void check(String rule, boolean kept) {
@@ -122,6 +136,79 @@ public final class RulesTest {
         }
     }
 
+    /** What the compiled class does, as the Java kit's own reader of classes tells it; empty: there is no such reader. */
+    private static String compiledCode() {
+        Optional<ToolProvider> reader = ToolProvider.findFirst("javap");
+        if (reader.isEmpty()) {
+            System.out.println("the reader of classes is not at hand: the compiled class is not looked at");
+            return "";
+        }
+        List<String> wanted = new ArrayList<>(Arrays.asList("-c", "-p", "-cp", System.getProperty("java.class.path")));
+        wanted.add(LeastRoutes.class.getName());
+        for (Class<?> inside : LeastRoutes.class.getDeclaredClasses()) {
+            wanted.add(inside.getName());
+        }
+        StringWriter said = new StringWriter();
+        int code = reader.get().run(new PrintWriter(said), new PrintWriter(said), wanted.toArray(new String[0]));
+        check("the compiled class can be read", code == 0);
+        return said.toString();
+    }
+
+    /** Of each method ("LeastRoutes$Table.hopAt") the methods that it calls. */
+    private static Map<String, Set<String>> callsOf(String code) {
+        Map<String, Set<String>> calls = new TreeMap<>();
+        String owner = "";
+        String method = "";
+        Pattern head = Pattern.compile("^  (?! )[^(]*?([\\w$]+)\\(.*\\);$");
+        for (String line : code.split("\n")) {
+            Matcher type = Pattern.compile("\\bclass ([\\w$]+) .*\\{$").matcher(line);
+            Matcher begin = head.matcher(line);
+            Matcher call = Pattern.compile("// (?:Interface)?Method (\\S+):\\(").matcher(line);
+            if (!line.startsWith(" ") && type.find()) {
+                owner = type.group(1);
+            } else if (begin.find()) {
+                method = owner + "." + (begin.group(1).equals(owner) ? "\"<init>\"" : begin.group(1));
+                calls.put(method, new TreeSet<>());
+            } else if (call.find()) {
+                calls.get(method).add(call.group(1).matches(".*[./].*") ? call.group(1) : owner + "." + call.group(1));
+            }
+            check("no object is made but in constructors: " + method + line,
+                !line.matches(".*: (new|a?newarray|multianewarray) .*") || method.endsWith("<init>\""));
+            check("nothing of the machine that is ruled out: " + method + line,
+                !line.matches(".*: (athrow|invokedynamic|checkcast|monitorenter|[fd]add|[fd]div)\\b.*"));
+            check("no static initialiser: " + owner, !line.startsWith("  static {}"));
+        }
+        return calls;
+    }
+
+    /** How many calls stand open at once, beginning with this one; the library's own count as one. */
+    private static int depth(Map<String, Set<String>> calls, String method, List<String> open) {
+        check("no recursion: " + open + " " + method, !open.contains(method));
+        if (open.contains(method) || !calls.containsKey(method)) {
+            return 1;
+        }
+        open.add(method);
+        int below = 0;
+        for (String next : calls.get(method)) {
+            below = Math.max(below, depth(calls, next, open));
+        }
+        open.remove(method);
+        return below + 1;
+    }
+
+    private static void compiled() {
+        String code = compiledCode();
+        Map<String, Set<String>> calls = callsOf(code);
+        check("all calls of the face are found", code.isEmpty() || calls.size() > 25);
+        for (Map.Entry<String, Set<String>> one : calls.entrySet()) {
+            for (String called : one.getValue()) {
+                check(one.getKey() + " calls " + called, calls.containsKey(called) || called.matches(ALLOWED));
+            }
+            int deep = depth(calls, one.getKey(), new ArrayList<>());
+            check("at most eight deep: " + one.getKey() + " goes " + deep, deep <= DEEPEST);
+        }
+    }
+
     private static long allocated() {
         com.sun.management.ThreadMXBean threads = (com.sun.management.ThreadMXBean) ManagementFactory.getThreadMXBean();
         return threads.getCurrentThreadAllocatedBytes();
@@ -163,6 +250,7 @@ public final class RulesTest {
     public static void main(String[] args) throws Exception {
         face();
         text();
+        compiled();
         room();
         System.out.println(wrong == 0 ? "all rules that can be seen are kept" : wrong + " rules are not kept");
         if (wrong != 0) {
